@@ -139,6 +139,8 @@ abstract class Bench {
     private void row(String puzzle, Call call, long want, int status) {
         rows++;
         MoveGroups asked = lived(puzzle);
+        // the call ahead has another status, so that this one's is seen to be its own
+        asked.many(status == 0 ? -1 : 0);
         long got = call.on(asked);
         if (got != want || asked.status() != status) {
             bad("answered " + got + " with status " + asked.status() + ", due is " + want + " with status " + status);
@@ -180,6 +182,13 @@ abstract class Bench {
     void bare(long got, long want) {
         rows++;
         if (got != want) {
+            bad("answered " + got + ", due is " + want);
+        }
+    }
+
+    void alike(String got, String want) {
+        rows++;
+        if (!got.equals(want)) {
             bad("answered " + got + ", due is " + want);
         }
     }

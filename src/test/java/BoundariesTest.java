@@ -12,6 +12,8 @@ public final class BoundariesTest extends Bench {
     private static final String S4 = "points 4;move a (0 1 2 3);move b (0 1);";
     private static final String A5 = "points 5;move a (0 1 2 3 4);move b (0 1 2);";
     private static final String SIX_MOVES = "points 3;move a(0 1);move b(1 2);move c(0 2);move d(0 1 2);move e(0 2 1);word f a a;";
+    private static final String LAST_OF_SIX
+            = "points 7;move a(0);move b(0);move c(0);move d(0);move e(0);move f(0 1 2 3 4 5 6);";
     /** ORDER 5,040: the most that is SMALL. */
     private static final String S7 = "points 7;move a (0 1 2 3 4 5 6);move b (0 1);";
     private static final String A7_2 = "points 9;move a (0 1 2);move b (2 3 4 5 6);move c (7 8);";
@@ -159,6 +161,9 @@ public final class BoundariesTest extends Bench {
         says(13, "the least POWER, 1 or more, that is HOME: 1 for HOME");
         due(TWO, x -> x.about(1, 0), 1);
         due(TWO, x -> x.about(10, 0), 2);
+        due(TEN, x -> x.about(HOME_10, 0), 1);
+        due("points 8;", x -> x.about(1234567, 0), 1);
+        due("points 9;", x -> x.about(12345678, 0), 1);
         due(TEN, x -> x.about(1234567890, 0), 10);
 
         says(13, "CYCLES (POINTS that stay are such)");
@@ -323,6 +328,11 @@ public final class BoundariesTest extends Bench {
         no(SQUARE, x -> x.way(132, -2), 1);
         no(TWO, x -> x.way(10, -1), 6);
 
+        says(23, "STEPS of six MOVES");
+        due(LAST_OF_SIX, x -> x.way(1234560, 0), 10);
+        due(LAST_OF_SIX, x -> x.way(6012345, 0), 11);
+        due(LAST_OF_SIX, x -> x.way(3456012, -1), 3);
+
         says(23, "of several the first row of STEPS by numbers");
         due(SQUARE, x -> x.way(2301, 0), 0);
         due(SQUARE, x -> x.way(2301, 1), 0);
@@ -398,6 +408,18 @@ public final class BoundariesTest extends Bench {
         due(SQUARE, x -> x.nearer(), 1);
         given(x -> x.turn(0) + x.turn(0));
         due(SQUARE, x -> x.nearer(), 3);
+
+        says(27, "is less: a STEP to the same DEPTH is none");
+        given(x -> x.turn(0) + x.turn(0));
+        due("points 5;move a (0 1 2 3 4);", x -> x.nearer(), 2);
+        given(x -> x.turn(0));
+        due("points 5;move a (0 1 2 3 4);word b a a';", x -> x.nearer(), 2);
+
+        says(27, "STEPS of six MOVES, as bits");
+        given(x -> x.turn(10));
+        due(LAST_OF_SIX, x -> x.nearer(), 2048);
+        given(x -> x.turn(11));
+        due(LAST_OF_SIX, x -> x.nearer(), 1024);
 
         says(27, "6: THE STAND is not in THE GROUP");
         given(x -> x.place(132));
@@ -568,6 +590,8 @@ public final class BoundariesTest extends Bench {
         due("points 9;move a (0 1 2 3 4 5 6 7 8);", x -> x.has(3), 0);
         due("points 4;move a (0 1)(2 3);move b (0 2)(1 3);", x -> x.has(3), 0);
         due("points 4;move a (0 1)(2 3);move b (1 2 3);", x -> x.has(3), 1);
+        due("points 4;move a (0 2 1 3);move b (0 1);", x -> x.has(3), 0);
+        due("points 4;move a (0 1 3 2);move b (0 3);", x -> x.has(3), 0);
         due(S10, x -> x.has(3), 1);
     }
 

@@ -271,6 +271,13 @@ public final class TextBoundariesTest extends Bench {
         faulty("points 3;move a (0 1);word b move;", 2, 29);
         faulty("points 3;move a (0 1);word b word;", 2, 29);
         faulty("points 3;move a (0 1);word b a move c (0 1);", 2, 31);
+        fine("points 3;move joints (0 1);move pointz (0);move love (0);move movi (0);word lord love;word wore love;", 6);
+        faulty("joints 3;", 2, 0);
+        faulty("pointz 3;", 2, 0);
+        faulty("points 3;love a (0 1);", 2, 9);
+        faulty("points 3;movi a (0 1);", 2, 9);
+        faulty("points 3;move a (0 1);lord b a;", 2, 22);
+        faulty("points 3;move a (0 1);wore b a;", 2, 22);
         fine("points 3;move point (0 1);move pointss (0);move mov (0);move moves (0);word words mov;word wor mov;", 6);
 
         says(0, "no two MOVES have one: 4 a new NAME that is taken");
@@ -441,6 +448,19 @@ public final class TextBoundariesTest extends Bench {
         is(x.load(0), 0);
         is(x.many(0), 0);
 
+        says(4, "the first n bytes: a TOKEN ends with them, though the tape goes on");
+        x = new MoveGroups();
+        cut("points 10;", 8, 3, 7);
+        cut("points 1010;", 9, 2, 9);
+        cut("points 2;", 5, 2, 0);
+        cut("pointss 3;", 6, 2, 6);
+        cut("points 3;move abcdefghi (0 1);", 22, 2, 22);
+        cut("points 3;move a (0 1);word b abc;", 30, 2, 30);
+        cut("points 3;", 6, 2, 6);
+        cut("points  3;", 7, 2, 7);
+        feed(x, "points 3;move a (0 1);!");
+        is(x.load(22), 1);
+
         says(4, "also with 9");
         feed(x, "points 3;points 4;points 5;points 6;");
         refused(x.load(18), 9);
@@ -489,6 +509,14 @@ public final class TextBoundariesTest extends Bench {
         says(4, "how many MOVES: 0 to 6");
         fine("points 4;", 0);
         fine(SIX_MOVES, 6);
+    }
+
+    /** A text of which only the first bytes are loaded. */
+    private void cut(String text, int length, int kind, int place) {
+        feed(x, text);
+        refused(x.load(length), 9);
+        bare(x.fault(0), kind);
+        bare(x.fault(1), place);
     }
 
     private void toldFault() {
