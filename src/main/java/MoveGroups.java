@@ -846,7 +846,7 @@ public final class MoveGroups {
                 at = image(turn, at);
                 length++;
             }
-            int turns = Math.floorMod(k, length);
+            int turns = length > 0 ? Math.floorMod(k, length) : 0;
             at = point;
             for (int i = 0; i < turns; i++) {
                 at = image(turn, at);
@@ -2175,7 +2175,9 @@ public final class MoveGroups {
             for (int round = 0; round < MOST_POINTS && hasChanged; round++) {
                 hasChanged = false;
                 for (int i = 0; i < moveCount; i++) {
-                    hasChanged |= spreadMarks(moves[i]);
+                    if (spreadMarks(moves[i])) {
+                        hasChanged = true;
+                    }
                 }
             }
             int block = 0;
