@@ -1,3 +1,5 @@
+import java.io.PrintWriter;
+import java.io.StringWriter;
 import java.lang.management.ManagementFactory;
 import java.lang.reflect.Field;
 import java.lang.reflect.Method;
@@ -7,9 +9,13 @@ import java.nio.file.Path;
 import java.util.ArrayList;
 import java.util.Arrays;
 import java.util.List;
+import java.util.Map;
+import java.util.Optional;
+import java.util.TreeMap;
 import java.util.TreeSet;
 import java.util.regex.Matcher;
 import java.util.regex.Pattern;
+import java.util.spi.ToolProvider;
 
 /** What can be seen of LANGUAGE.md without reading: the face, the words that are left out, and the room that runs take. */
 public final class RulesTest {
@@ -19,6 +25,7 @@ public final class RulesTest {
         face();
         members();
         words();
+        depths();
         room();
         System.out.println(wrong == 0 ? "the rules hold" : wrong + " rules are broken");
         if (wrong > 0) {
@@ -108,6 +115,66 @@ public final class RulesTest {
             length = isHead ? 0 : length + 1;
             need(length < 60 || !line.matches(" {4,8}\\}"), "a method is too long, its end: " + line);
         }
+    }
+
+    /** Rule 11: calls go at most eight deep; and none calls itself, by whatever way. */
+    private static void depths() {
+        Optional<ToolProvider> reader = ToolProvider.findFirst("javap");
+        if (reader.isEmpty()) {
+            System.out.println("calls were not followed: this machine has no javap");
+            return;
+        }
+        List<String> arguments = new ArrayList<>(List.of("-c", "-p", "-cp", System.getProperty("java.class.path"), "MoveGroups"));
+        for (Class<?> inside : MoveGroups.class.getDeclaredClasses()) {
+            arguments.add(inside.getName());
+        }
+        StringWriter told = new StringWriter();
+        PrintWriter lines = new PrintWriter(told);
+        int rc = reader.get().run(lines, lines, arguments.toArray(new String[0]));
+        lines.flush();
+        Map<String, TreeSet<String>> calls = callsOf(told.toString());
+        need(rc == 0 && calls.size() > 100, "the class files were not read: " + calls.size() + " methods");
+        int most = 0;
+        for (String method : calls.keySet()) {
+            most = Math.max(most, depth(method, calls, 1));
+        }
+        need(most <= 8, "calls go " + most + " deep");
+    }
+
+    /** Of each method, by class and name, the methods that it calls; the library's have no calls of their own here. */
+    private static Map<String, TreeSet<String>> callsOf(String told) {
+        Pattern classHead = Pattern.compile("^\\S.*\\bclass (\\S+).*\\{$");
+        Pattern methodHead = Pattern.compile("^  \\S.*?([\\w$]+)\\(.*\\);$");
+        Pattern call = Pattern.compile("// Method ([^:]+):");
+        Map<String, TreeSet<String>> calls = new TreeMap<>();
+        String owner = "";
+        TreeSet<String> own = new TreeSet<>();
+        for (String line : told.split("\n")) {
+            Matcher head = classHead.matcher(line);
+            Matcher method = methodHead.matcher(line);
+            Matcher called = call.matcher(line);
+            if (head.matches()) {
+                owner = head.group(1);
+            } else if (method.matches()) {
+                String name = method.group(1).equals(owner) ? "<init>" : method.group(1);
+                own = calls.computeIfAbsent(owner + "." + name, ignored -> new TreeSet<>());
+            } else if (called.find()) {
+                String target = called.group(1).replace("\"", "");
+                own.add(target.contains(".") ? target : owner + "." + target);
+            }
+        }
+        return calls;
+    }
+
+    private static int depth(String method, Map<String, TreeSet<String>> calls, int above) {
+        int most = 1;
+        // beyond twenty it is a ring, and more than eight by far
+        if (above < 20) {
+            for (String called : calls.getOrDefault(method, new TreeSet<>())) {
+                most = Math.max(most, 1 + depth(called, calls, above + 1));
+            }
+        }
+        return most;
     }
 
     private static void feed(MoveGroups x, String text) {
